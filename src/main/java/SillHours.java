@@ -339,9 +339,7 @@ public final class SillHours {
         if (what < 0 || what > 3) {
             return refuse(NUMBER_WRONG);
         }
-        if (!writeOut(what, number)) {
-            return refuse(NONE_SUCH);
-        }
+        writeOut(what, number);
         return answerLetter(k);
     }
 
@@ -467,16 +465,21 @@ public final class SillHours {
         return true;
     }
 
-    private boolean writeOut(int what, int number) {
+    /** Of one that is not there nothing is written, so that no letter of it is found. */
+    private void writeOut(int what, int number) {
         switch (what) {
             case 0:
-                return page.writePort(portAt(number));
+                page.writePort(portAt(number));
+                break;
             case 1:
-                return page.writeSill(sillAt(number));
+                page.writeSill(sillAt(number));
+                break;
             case 2:
-                return page.writeShip(shipAt(number));
+                page.writeShip(shipAt(number));
+                break;
             default:
-                return page.writeRoute(routeAt(number));
+                page.writeRoute(routeAt(number));
+                break;
         }
     }
 
@@ -881,8 +884,11 @@ public final class SillHours {
             while (i > 0 && minuteOf(i) > t) {
                 i--;
             }
-            int gap = gapBehind(i);
-            return gap > 0 ? Math.floorDiv(excess(i, t, 0), 12 * gap) : heightOf(i);
+            int gap = minuteOf(i + 1) - minuteOf(i);
+            if (i + 1 >= size || gap <= 0) {
+                return heightOf(i);
+            }
+            return Math.floorDiv(excess(i, t, 0), 12 * gap);
         }
 
         /** Collects the minutes at which the height stands on one side of h. */
@@ -923,26 +929,25 @@ public final class SillHours {
             return side == BELOW ? excess < 0 : excess <= 0;
         }
 
-        private int gapBehind(int i) {
-            return i >= 0 && i + 1 < size && i + 1 < room ? minutes[i + 1] - minutes[i] : 0;
-        }
-
         /**
-         * How far the height at t, which is at the i-th turn or behind it, is above h; 12 times the gap to the
-         * next turn is one whole of height, so that nothing is rounded. Behind the last turn there is no gap.
+         * How far the height at t, which is from the i-th turn on and ahead of the next one, is above h. 12 times
+         * the gap between the two stands for one of height, so that nothing is rounded.
          */
         private int excess(int i, int t, int h) {
-            int gap = gapBehind(i);
-            if (gap <= 0) {
-                return heightOf(i) - h;
+            if (i < 0 || i + 1 >= size || i + 1 >= room) {
+                return 0;
             }
-            int sixths = 6 * (t - minuteOf(i));
+            int gap = minutes[i + 1] - minutes[i];
+            if (gap <= 0) {
+                return 0;
+            }
+            int sixths = 6 * (t - minutes[i]);
             int part = sixths / gap;
             if (part < 0 || part >= TWELFTHS_OVER.length || part >= TWELFTHS_NEXT.length) {
                 return 0;
             }
             int over = TWELFTHS_OVER[part] * gap + TWELFTHS_NEXT[part] * (sixths % gap);
-            return (heightOf(i) - h) * 12 * gap + (heightOf(i + 1) - heightOf(i)) * over;
+            return (heights[i] - h) * 12 * gap + (heights[i + 1] - heights[i]) * over;
         }
     }
 
@@ -1503,10 +1508,10 @@ public final class SillHours {
             return k >= 0 && k < size && k < ROOM ? letters[k] : 0;
         }
 
-        boolean writePort(Port port) {
+        void writePort(Port port) {
             size = 0;
             if (port == null) {
-                return false;
+                return;
             }
             for (int i = 0; i < port.turnCount(); i++) {
                 if (i > 0) {
@@ -1517,13 +1522,12 @@ public final class SillHours {
                 put(' ');
                 putNumber(port.heightOf(i));
             }
-            return true;
         }
 
-        boolean writeSill(Sill sill) {
+        void writeSill(Sill sill) {
             size = 0;
             if (sill == null) {
-                return false;
+                return;
             }
             putText(wordOf(sill.kind()));
             put(' ');
@@ -1534,26 +1538,24 @@ public final class SillHours {
                 put(' ');
                 putNumber(sill.two());
             }
-            return true;
         }
 
-        boolean writeShip(Ship ship) {
+        void writeShip(Ship ship) {
             size = 0;
             if (ship == null) {
-                return false;
+                return;
             }
             putNumber(ship.draught());
             put(' ');
             putNumber(ship.mast());
             put(' ');
             putNumber(ship.pace());
-            return true;
         }
 
-        boolean writeRoute(Route route) {
+        void writeRoute(Route route) {
             size = 0;
             if (route == null) {
-                return false;
+                return;
             }
             for (int i = 0; i < route.stopCount(); i++) {
                 if (i > 0) {
@@ -1569,7 +1571,6 @@ public final class SillHours {
                     putNumber(route.levelOf(i));
                 }
             }
-            return true;
         }
 
         void writeNote(Spans found, boolean always) {

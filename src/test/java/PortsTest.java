@@ -23,6 +23,8 @@ public final class PortsTest {
         right("  hw 2359-0  ", "hw2359 0");
         right("lw 7 - 500", "lw0007 -500");
         right("hw0000 1500", "hw0000 1500");
+        right("hw1000 1000", "hw1000 1000");
+        right("hw0010 100,lw0110 10,hw0210 999", "hw0010 100,lw0110 10,hw0210 999");
         right("hw0100 0001,lw0200 0", "hw0100 1,lw0200 0");
         right("hw 100 1 , lw 1420 0", "hw0100 1,lw1420 0");
         right("lw2300-5,hw0000-4", "lw2300 -5,hw0000 -4");

@@ -156,6 +156,13 @@ public final class RoutesTest {
         CHECKS.due("arrive", x.arrive(0, 0, 194), -1);
         Checks.route(x, "4 /10 1!");
         CHECKS.due("start", x.start(1, 0, 380), -1);
+        // 600 and 200 stand from 220 on, later than the ship can come; 500 and 200 from 200 on
+        Checks.route(x, "4 /10 1~600");
+        CHECKS.due("start", x.start(2, 0, 380), -1);
+        Checks.route(x, "4! /10 1~500");
+        CHECKS.due("start", x.start(3, 0, 380), 193);
+        CHECKS.due("arrive", x.arrive(3, 0, 189), -1);
+        CHECKS.due("arrive", x.arrive(3, 0, 190), 300);
     }
 
     private static void legs() {

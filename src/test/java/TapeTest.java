@@ -87,6 +87,8 @@ public final class TapeTest {
         wrong('p', "hw 1 00000", 5);
         wrong('p', "hw 1 2 99999", 7);
         wrong('p', "hwlw 1 2", 0);
+        wrong('p', "hwa1 2", 0);
+        wrong('p', "hwz1 2", 0);
         wrong('p', "h w 1 2", 0);
         wrong('p', "HW 1 2", 0);
         wrong('p', "hW 1 2", 0);

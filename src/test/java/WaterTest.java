@@ -12,11 +12,14 @@ public final class WaterTest {
             CHECKS.due("above", x.above(0, 60 + 60 * i, due[i]), 1);
             CHECKS.due("above", x.above(0, 60 + 60 * i, due[i] + 1), 0);
         }
-        // 1200 - 100 / 60, 100 + 200 / 60
+        // one minute into each part: 100, 200, 300, 300, 200, 100 in an hour
+        int[] next = {1198, 1096, 895, 595, 296, 98, 1, 103, 305, 605, 903, 1101};
+        for (int i = 0; i < next.length; i++) {
+            CHECKS.due("water", x.water(0, 61 + 60 * i), next[i]);
+        }
         CHECKS.due("water(0, 61)", x.water(0, 61), 1198);
         CHECKS.due("above(0, 61, 1198)", x.above(0, 61, 1198), 1);
         CHECKS.due("above(0, 61, 1199)", x.above(0, 61, 1199), 0);
-        CHECKS.due("water(0, 481)", x.water(0, 481), 103);
         CHECKS.refused("water(0, 59)", x, x.water(0, 59), 1);
         CHECKS.refused("water(0, 781)", x, x.water(0, 781), 1);
         CHECKS.refused("water(0, least)", x, x.water(0, Integer.MIN_VALUE), 1);
@@ -43,6 +46,18 @@ public final class WaterTest {
         // t = 60: part 5, r 55: 300 - (671 + 55)
         CHECKS.due("water(1, 60)", x.water(1, 60), -426);
         CHECKS.due("water(1, 61)", x.water(1, 61), -432);
+    }
+
+    private static void lastOfSixteenTurns() {
+        SillHours x = new SillHours();
+        Checks.port(x, "hw0100 900,lw0200 0,hw0300 900,lw0400 0,hw0500 900,lw0600 0,hw0700 900,lw0800 0");
+        Checks.longer(x, 0, "hw0900 900,lw1000 0,hw1100 900,lw1200 0,hw1300 900,lw1400 0,hw1500 900,lw1600 0");
+        CHECKS.due("water(1, 890)", x.water(1, 890), 825);
+        CHECKS.due("water(1, 930)", x.water(1, 930), 450);
+        CHECKS.due("water(1, 960)", x.water(1, 960), 0);
+        CHECKS.due("rise", x.rise(1, 450, 931), -1);
+        CHECKS.due("rise", x.rise(1, 450, 930), 930);
+        CHECKS.due("ebb", x.ebb(1, 450, 900), 931);
     }
 
     private static void aboves() {
@@ -96,6 +111,7 @@ public final class WaterTest {
     public static void main(String[] args) {
         wholeTwelfths();
         roundedDown();
+        lastOfSixteenTurns();
         aboves();
         riseAndEbb();
         CHECKS.close();
