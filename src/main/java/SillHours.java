@@ -1,6 +1,6 @@
 /**
  * Tides over sills: ports and their waters, sills, ships and routes, each told by a text on a tape.
- * No call throws: a refused one answers BAD, and status() tells why.
+ * Every call answers: a refused one BAD, and status() tells why.
  */
 public final class SillHours {
     public static final int BAD = -9999;
@@ -366,7 +366,7 @@ public final class SillHours {
         return BAD;
     }
 
-    /** A text that goes with a port that is not there is thrown away unread, so place() and fault() stay. */
+    /** A text that goes with a port that is not there is dropped unread, so place() and fault() stay. */
     private int refuseUnread() {
         tape.keepFirst(0);
         return refuse(NONE_SUCH);
@@ -1175,7 +1175,7 @@ public final class SillHours {
 
     /** A set of whole numbers as rising spans, of which no two touch. */
     private static final class Spans {
-        static final int NONE = Integer.MIN_VALUE;
+        static final int NONE = -2147483648;
 
         private final int room;
         private final int[] firsts;
