@@ -675,9 +675,10 @@ public final class SillHours {
 
         void readTable(Tape tape) {
             size = 0;
-            do {
+            readTurn(tape);
+            for (int turns = 1; turns < ROOM_ON_TAPE && tape.takeMark(','); turns++) {
                 readTurn(tape);
-            } while (size < ROOM_ON_TAPE && tape.takeMark(','));
+            }
         }
 
         void readDifferences(Tape tape) {
@@ -1131,7 +1132,7 @@ public final class SillHours {
         void readFrom(Tape tape) {
             size = 0;
             readStop(tape, 0);
-            while (size < room && tape.takeMark('/')) {
+            for (int stops = 1; stops < room && tape.takeMark('/'); stops++) {
                 readStop(tape, tape.wantNumber());
             }
         }

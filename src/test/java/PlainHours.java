@@ -167,6 +167,25 @@ final class PlainHours {
         return answer(n);
     }
 
+    /** Reads a text of a kind: p port(), l longer(), d second(), s sill(), h ship(), r route(). */
+    int tell(char kind, int port, String text) {
+        tape = text;
+        switch (kind) {
+            case 'p':
+                return port();
+            case 'l':
+                return longer(port);
+            case 'd':
+                return second(port);
+            case 's':
+                return sill(port);
+            case 'h':
+                return ship();
+            default:
+                return route();
+        }
+    }
+
     private int table(List<Turn> base) {
         List<Turn> made = new ArrayList<>(base);
         return text(() -> {

@@ -3,7 +3,7 @@ public final class PortsTest {
     private static final Checks CHECKS = new Checks();
 
     private static void fault(String text, int fault) {
-        SillHours x = new SillHours();
+        Asked x = new Asked();
         CHECKS.refused("port '" + text + "'", x, Checks.port(x, text), 4);
         CHECKS.due("fault() of '" + text + "'", x.fault(), fault);
         CHECKS.due("place() of '" + text + "'", x.place(), SillHours.BAD);
@@ -12,7 +12,7 @@ public final class PortsTest {
     }
 
     private static void right(String text, String written) {
-        SillHours x = new SillHours();
+        Asked x = new Asked();
         CHECKS.taken("port '" + text + "'", x, Checks.port(x, text), 0);
         CHECKS.due("fault() of '" + text + "'", x.fault(), 0);
         CHECKS.due("written '" + text + "'", Checks.written(x, 0, 0), written);
@@ -51,7 +51,7 @@ public final class PortsTest {
     }
 
     private static void turns() {
-        SillHours x = new SillHours();
+        Asked x = new Asked();
         Checks.port(x, "lw2300-5,hw0500 7,lw1100 -9");
         CHECKS.taken("turns(0)", x, x.turns(0), 3);
         CHECKS.taken("turn(0, 0, 0)", x, x.turn(0, 0, 0), 1380);
@@ -70,7 +70,7 @@ public final class PortsTest {
     }
 
     private static void longerPorts() {
-        SillHours x = new SillHours();
+        Asked x = new Asked();
         Checks.port(x, "lw2300-5,hw0500 7");
         CHECKS.taken("longer(0)", x, Checks.longer(x, 0, "lw1100-9,hw1700 8"), 1);
         CHECKS.due("written", Checks.written(x, 0, 1), "lw2300 -5,hw0500 7,lw1100 -9,hw1700 8");
@@ -91,7 +91,7 @@ public final class PortsTest {
 
     /** Sixteen turns are the most, and a fault is told ahead of no room. */
     private static void sixteenTurns() {
-        SillHours x = new SillHours();
+        Asked x = new Asked();
         String eight = "hw0100 9,lw0200 0,hw0300 9,lw0400 0,hw0500 9,lw0600 0,hw0700 9,lw0800 0";
         String more = "hw0900 9,lw1000 0,hw1100 9,lw1200 0,hw1300 9,lw1400 0,hw1500 9,lw1600 0";
         Checks.port(x, eight);
@@ -120,7 +120,7 @@ public final class PortsTest {
     }
 
     private static void eightPorts() {
-        SillHours x = new SillHours();
+        Asked x = new Asked();
         for (int i = 0; i < 8; i++) {
             CHECKS.taken("port()", x, Checks.port(x, "hw0100 9"), i);
         }
@@ -135,7 +135,7 @@ public final class PortsTest {
     }
 
     private static void seconds() {
-        SillHours x = new SillHours();
+        Asked x = new Asked();
         Checks.port(x, "hw0500 100,lw1100 0,hw1700 107");
         CHECKS.taken("second(0)", x, Checks.second(x, 0, "hw+10 100+10 110+13,lw-20 0-5 10+5"), 1);
         // 107 and 10 + floor(3 * 7 / 10)
@@ -154,7 +154,7 @@ public final class PortsTest {
     }
 
     private static void unsound(String base, String text, int fault) {
-        SillHours x = new SillHours();
+        Asked x = new Asked();
         CHECKS.due("port '" + base + "'", Checks.port(x, base), 0);
         int got = Checks.second(x, 0, text);
         if (fault == 0) {
@@ -208,7 +208,7 @@ public final class PortsTest {
     }
 
     private static void letters() {
-        SillHours x = new SillHours();
+        Asked x = new Asked();
         Checks.port(x, "hw0412 530,lw1029 90");
         CHECKS.taken("letter(0, 0, 0)", x, x.letter(0, 0, 0), 'h');
         CHECKS.taken("letter(0, 0, 19)", x, x.letter(0, 0, 19), '0');
@@ -224,7 +224,7 @@ public final class PortsTest {
     }
 
     private static void sames() {
-        SillHours x = new SillHours();
+        Asked x = new Asked();
         Checks.port(x, "hw0412 530,lw1029 90");
         Checks.port(x, " hw 412 0530 , lw 1029 0090");
         Checks.port(x, "hw0412 530,lw1029 91");

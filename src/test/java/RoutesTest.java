@@ -3,8 +3,8 @@ public final class RoutesTest {
     private static final Checks CHECKS = new Checks();
 
     /** Sill 0 is good from 180 to 540, sill 1 from 300 to 390, sill 2 always (0 to 720), sill 3 at 360 alone. */
-    private static SillHours harbour() {
-        SillHours x = new SillHours();
+    private static Asked harbour() {
+        Asked x = new Asked();
         Checks.port(x, "lw0000 0,hw0600 1200,lw1200 0");
         Checks.sill(x, 0, "bar 400");
         Checks.sill(x, 0, "gate 400 60 30");
@@ -17,7 +17,7 @@ public final class RoutesTest {
 
     /** passes: the minutes of the plan from t on; none if there is no way. */
     private static void plan(String route, int t, int waits, int... passes) {
-        SillHours x = harbour();
+        Asked x = harbour();
         String what = route + " from " + t;
         CHECKS.due(what, Checks.route(x, route), 0);
         int stops = x.stops(0);
@@ -31,7 +31,7 @@ public final class RoutesTest {
     }
 
     private static void start(String route, int t, int due) {
-        SillHours x = harbour();
+        Asked x = harbour();
         CHECKS.due(route, Checks.route(x, route), 0);
         CHECKS.taken("start " + route + " by " + t, x, x.start(0, 0, t), due);
     }
@@ -103,7 +103,7 @@ public final class RoutesTest {
         plan("2! /60 1~700", 200, 40, 200, 300);
         plan("2! /60 1~700", 150, 0);
         // two tides: the deep water of the first one does not reach to the second one
-        SillHours x = new SillHours();
+        Asked x = new Asked();
         Checks.port(x, "lw0000 0,hw0600 1200,lw1200 0,hw1800 1200,lw0000 0");
         Checks.sill(x, 0, "gate 400 60 30");
         Checks.ship(x, "200 0 10");
@@ -145,7 +145,7 @@ public final class RoutesTest {
 
     /** A later window may be missed: an earlier pass that waits afloat can be the only way. */
     private static void startByWaiting() {
-        SillHours x = harbour();
+        Asked x = harbour();
         // sill 4: good up to 200 only, so the ship comes early to sill 1 and waits there in 300 + 200
         Checks.sill(x, 0, "bridge 1067");
         CHECKS.due("note", Checks.note(x, 4, 0).substring(0, 9), "0000-0313");
@@ -166,7 +166,7 @@ public final class RoutesTest {
     }
 
     private static void legs() {
-        SillHours x = harbour();
+        Asked x = harbour();
         Checks.route(x, "0 /60 1 /61 2 /0 0 /1 0 /9999 0");
         int[] slow = {0, 60, 61, 0, 1, 9999};
         int[] fast = {0, 42, 43, 0, 1, 7000};
@@ -184,7 +184,7 @@ public final class RoutesTest {
     }
 
     private static void refusals() {
-        SillHours x = harbour();
+        Asked x = harbour();
         Checks.route(x, "0 /60 1");
         int[][] none = {{1, 0}, {0, 2}, {-1, 0}, {0, -1}};
         for (int[] pair : none) {
@@ -203,7 +203,7 @@ public final class RoutesTest {
     }
 
     private static void texts() {
-        SillHours x = harbour();
+        Asked x = harbour();
         String[] told = {"0", " 0003 ! ", "1~-0/0 2~ - 5/0010 0!", "0~1500 / 9999 0 ~ -500"};
         String[] written = {"0", "3!", "1~0 /0 2~-5 /10 0!", "0~1500 /9999 0~-500"};
         for (int i = 0; i < told.length; i++) {

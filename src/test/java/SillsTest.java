@@ -4,8 +4,8 @@ public final class SillsTest {
     /** Minutes 0 to 720; 600 and more from 180 to 540. */
     private static final String ONE_TIDE = "lw0000 0,hw0600 1200,lw1200 0";
 
-    private static SillHours with(String port, String sill, String ship) {
-        SillHours x = new SillHours();
+    private static Asked with(String port, String sill, String ship) {
+        Asked x = new Asked();
         CHECKS.due("port " + port, Checks.port(x, port), 0);
         CHECKS.due("sill " + sill, Checks.sill(x, 0, sill), 0);
         CHECKS.due("ship " + ship, Checks.ship(x, ship), 0);
@@ -13,7 +13,7 @@ public final class SillsTest {
     }
 
     private static void windows(String port, String sill, String ship, String note, int... ends) {
-        SillHours x = with(port, sill, ship);
+        Asked x = with(port, sill, ship);
         String what = sill + " for " + ship + " at " + port;
         CHECKS.taken("hours: " + what, x, x.hours(0, 0), ends.length / 2);
         int all = 0;
@@ -91,7 +91,7 @@ public final class SillsTest {
     }
 
     private static void faults() {
-        SillHours x = new SillHours();
+        Asked x = new Asked();
         Checks.port(x, ONE_TIDE);
         String[] unsound = {"bar -501", "bar 1501", "gate -501 0 0", "gate 1501 0 0", "gate 0 601 0", "gate 0 0 601",
             "flap -501 0 0", "flap 1501 0 0", "flap 0 601 0", "bridge -1"};
@@ -122,7 +122,7 @@ public final class SillsTest {
     }
 
     private static void rooms() {
-        SillHours x = new SillHours();
+        Asked x = new Asked();
         Checks.port(x, ONE_TIDE);
         for (int i = 0; i < 12; i++) {
             CHECKS.taken("sill", x, Checks.sill(x, 0, "bar " + i), i);
@@ -145,7 +145,7 @@ public final class SillsTest {
     }
 
     private static void refusals() {
-        SillHours x = with(ONE_TIDE, "bar 400", "200 0 1");
+        Asked x = with(ONE_TIDE, "bar 400", "200 0 1");
         int[][] none = {{1, 0}, {0, 1}, {-1, 0}, {0, -1}};
         for (int[] pair : none) {
             CHECKS.refused("hours", x, x.hours(pair[0], pair[1]), 1);
@@ -167,7 +167,7 @@ public final class SillsTest {
 
     /** A sill keeps its port, whatever ports come later; ships differ at the same sill. */
     private static void severalPorts() {
-        SillHours x = new SillHours();
+        Asked x = new Asked();
         Checks.port(x, ONE_TIDE);
         Checks.port(x, "hw0000 900,lw0140 800");
         Checks.sill(x, 1, "bar 700");
@@ -181,7 +181,7 @@ public final class SillsTest {
 
     /** As many windows as a port can have, on all days that it can have. */
     private static void manyWindows() {
-        SillHours x = new SillHours();
+        Asked x = new Asked();
         Checks.port(x, "hw0 1,lw1040 0,hw0 1,lw1040 0,hw0 1,lw1040 0,hw0 1,lw1040 0,hw0 1,lw1040 0,hw0 1,lw1040 0,"
             + "hw0 1,lw1040 0,hw0 1,lw1040 0");
         Checks.sill(x, 0, "gate 0 1 1");

@@ -3,7 +3,7 @@ public final class TapeTest {
     private static final Checks CHECKS = new Checks();
 
     private static void newObject() {
-        SillHours x = new SillHours();
+        Asked x = new Asked();
         CHECKS.due("status()", x.status(), 0);
         CHECKS.due("place()", x.place(), SillHours.BAD);
         CHECKS.due("fault()", x.fault(), 0);
@@ -18,7 +18,7 @@ public final class TapeTest {
     }
 
     private static void feedAndEnd() {
-        SillHours x = new SillHours();
+        Asked x = new Asked();
         for (int n = 20; n <= 120; n += 20) {
             CHECKS.taken("feed", x, x.feed(0, 0, 0, 0, 0), n);
         }
@@ -40,7 +40,7 @@ public final class TapeTest {
 
     /** What stays in the tape's row behind end() or a text is no part of the next one. */
     private static void cutBytesAreGone() {
-        SillHours x = new SillHours();
+        Asked x = new Asked();
         Checks.put(x, "lw2030 1799");
         x.end(9);
         CHECKS.taken("port()", x, x.port(), 0);
@@ -52,7 +52,7 @@ public final class TapeTest {
     }
 
     private static void wrong(char kind, String text, int place) {
-        SillHours x = new SillHours();
+        Asked x = new Asked();
         Checks.port(x, "lw0000 0,hw0600 1200,lw1200 0");
         Checks.sill(x, 0, "bar 0");
         Checks.put(x, text);
@@ -168,7 +168,7 @@ public final class TapeTest {
 
     /** A right text behind a wrong one has no place; a text that is not read leaves place() and fault() alone. */
     private static void latestText() {
-        SillHours x = new SillHours();
+        Asked x = new Asked();
         Checks.port(x, "hw 1");
         CHECKS.due("place()", x.place(), 4);
         Checks.put(x, "bar 5");
@@ -196,7 +196,7 @@ public final class TapeTest {
 
     /** place(), fault() and status() are no calls with a status of their own. */
     private static void statusStays() {
-        SillHours x = new SillHours();
+        Asked x = new Asked();
         x.end(7);
         x.place();
         x.fault();

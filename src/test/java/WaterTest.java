@@ -4,7 +4,7 @@ public final class WaterTest {
 
     /** 1200 in 360 minutes: a twelfth is 100, a sixth of the time an hour. */
     private static void wholeTwelfths() {
-        SillHours x = new SillHours();
+        Asked x = new Asked();
         Checks.port(x, "hw0100 1200,lw0700 0,hw1300 1200");
         int[] due = {1200, 1100, 900, 600, 300, 100, 0, 100, 300, 600, 900, 1100, 1200};
         for (int i = 0; i < due.length; i++) {
@@ -29,7 +29,7 @@ public final class WaterTest {
 
     /** A time that is no multiple of six, heights below 0: rounded down, never towards 0. */
     private static void roundedDown() {
-        SillHours x = new SillHours();
+        Asked x = new Asked();
         Checks.port(x, "lw0000 -7,hw0101 -6");
         CHECKS.due("water(0, 0)", x.water(0, 0), -7);
         CHECKS.due("water(0, 1)", x.water(0, 1), -7);
@@ -49,7 +49,7 @@ public final class WaterTest {
     }
 
     private static void lastOfSixteenTurns() {
-        SillHours x = new SillHours();
+        Asked x = new Asked();
         Checks.port(x, "hw0100 900,lw0200 0,hw0300 900,lw0400 0,hw0500 900,lw0600 0,hw0700 900,lw0800 0");
         Checks.longer(x, 0, "hw0900 900,lw1000 0,hw1100 900,lw1200 0,hw1300 900,lw1400 0,hw1500 900,lw1600 0");
         CHECKS.due("water(1, 890)", x.water(1, 890), 825);
@@ -61,7 +61,7 @@ public final class WaterTest {
     }
 
     private static void aboves() {
-        SillHours x = new SillHours();
+        Asked x = new Asked();
         Checks.port(x, "hw0100 1200,lw0700 0");
         CHECKS.taken("above 9999", x, x.above(0, 60, 9999), 0);
         CHECKS.taken("above -9999", x, x.above(0, 60, -9999), 1);
@@ -78,7 +78,7 @@ public final class WaterTest {
     }
 
     private static void riseAndEbb() {
-        SillHours x = new SillHours();
+        Asked x = new Asked();
         Checks.port(x, "hw0100 1200,lw0700 0,hw1300 1200,lw1900 600");
         int least = Integer.MIN_VALUE;
         int most = Integer.MAX_VALUE;

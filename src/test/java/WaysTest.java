@@ -4,7 +4,7 @@ import java.util.Random;
 
 /**
  * Promises 26 to 29 by their very words: all ways of small routes are written down, and the plan is picked from
- * them. Only good(), above() and leg(), which other tests look after, are asked of the class itself.
+ * them. Which minutes are good, how deep the water is and how long a leg takes is asked of PlainHours.
  */
 public final class WaysTest {
     private static final Checks CHECKS = new Checks();
@@ -12,7 +12,9 @@ public final class WaysTest {
     private static final int MOST_WAYS = 40000;
 
     private final Random random;
-    private final SillHours x = new SillHours();
+    private final PlainHours plain = new PlainHours();
+    private final List<String> told = new ArrayList<>();
+    private Asked asked = null;
     private final int[] portOf = new int[4];
     private int[] sills;
     private char[] kinds;
@@ -30,6 +32,22 @@ public final class WaysTest {
         return least + random.nextInt(most - least + 1);
     }
 
+    /** One to ask, with room for some more calls: a new one hears all that has been told. */
+    private Asked x() {
+        if (asked == null || asked.callsLeft() < 10) {
+            asked = new Asked();
+            for (String text : told) {
+                CHECKS.due(text, Checks.read(asked, text.charAt(0), text.charAt(1) - '0', text.substring(2)) >= 0 ? 1 : 0, 1);
+            }
+        }
+        return asked;
+    }
+
+    private void tell(char kind, int port, String text) {
+        told.add(kind + Integer.toString(port) + text);
+        CHECKS.due(text, plain.tell(kind, port, text) >= 0 ? 1 : 0, 1);
+    }
+
     private void tellAll() {
         for (int p = 0; p < 2; p++) {
             StringBuilder table = new StringBuilder();
@@ -41,17 +59,17 @@ public final class WaysTest {
                 high = !high;
                 minute += from(60, 75);
             }
-            CHECKS.due(table.toString(), Checks.port(x, table.toString()), p);
+            tell('p', 0, table.toString());
         }
         for (int s = 0; s < 4; s++) {
             int kind = random.nextInt(4);
             String text = kind == 0 ? "bar " + from(-50, 130) : kind == 1 ? "gate " + from(-50, 100) + " " + from(0, 40) + " " + from(0, 40)
                 : kind == 2 ? "flap " + from(0, 150) + " " + from(0, 20) + " 200" : "bridge " + from(550, 800);
             portOf[s] = random.nextInt(2);
-            CHECKS.due(text, Checks.sill(x, portOf[s], text), s);
+            tell('s', portOf[s], text);
         }
         draught = from(1, 100);
-        CHECKS.due("ship", Checks.ship(x, draught + " 500 10"), 0);
+        tell('h', 0, draught + " 500 10");
     }
 
     private void tellRoute() {
@@ -67,13 +85,13 @@ public final class WaysTest {
             text.append(i == 0 ? "" : " /" + from(0, 40) + " ").append(sills[i]);
             text.append(kinds[i] == '!' ? "!" : kinds[i] == '~' ? "~" + sizes[i] : "");
         }
-        CHECKS.due(text.toString(), Checks.route(x, text.toString()), 0);
+        tell('r', 0, text.toString());
         good = new boolean[stops][400];
         deep = new boolean[stops][400];
         for (int i = 0; i < stops; i++) {
             for (int t = 0; t < 400; t++) {
-                good[i][t] = x.good(sills[i], 0, t) == 1;
-                deep[i][t] = x.above(portOf[sills[i]], t, sizes[i] + draught) == 1;
+                good[i][t] = plain.good(sills[i], 0, t) == 1;
+                deep[i][t] = plain.above(portOf[sills[i]], t, sizes[i] + draught) == 1;
             }
         }
     }
@@ -89,7 +107,7 @@ public final class WaysTest {
             boolean may = m == arrives || kinds[i] == ' ' || kinds[i] == '~' && floats;
             if (may && m >= 0 && good[i][m]) {
                 passes[i] = m;
-                findWays(i + 1, i + 1 < sills.length ? m + x.leg(0, 0, i + 1) : 0, passes);
+                findWays(i + 1, i + 1 < sills.length ? m + plain.leg(0, 0, i + 1) : 0, passes);
             }
         }
     }
@@ -123,17 +141,17 @@ public final class WaysTest {
 
     private void comparePlan(int t, int[] best) {
         int stops = sills.length;
-        CHECKS.due("arrive from " + t, x.arrive(0, 0, t), best.length == 0 ? -1 : best[stops - 1]);
+        CHECKS.due("arrive from " + t, x().arrive(0, 0, t), best.length == 0 ? -1 : best[stops - 1]);
         int waits = 0;
         int arrives = t;
         for (int i = 0; i < stops; i++) {
-            CHECKS.due("pass from " + t, x.pass(0, 0, t, i), best.length == 0 ? -1 : best[i]);
+            CHECKS.due("pass from " + t, x().pass(0, 0, t, i), best.length == 0 ? -1 : best[i]);
             if (best.length > 0) {
                 waits += best[i] - arrives;
-                arrives = best[i] + (i + 1 < stops ? x.leg(0, 0, i + 1) : 0);
+                arrives = best[i] + (i + 1 < stops ? plain.leg(0, 0, i + 1) : 0);
             }
         }
-        CHECKS.due("waits from " + t, x.waits(0, 0, t), best.length == 0 ? -1 : waits);
+        CHECKS.due("waits from " + t, x().waits(0, 0, t), best.length == 0 ? -1 : waits);
     }
 
     private void run() {
@@ -154,7 +172,7 @@ public final class WaysTest {
             while (latest >= 0 && earliest[latest] > by) {
                 latest--;
             }
-            CHECKS.due("start by " + by, x.start(0, 0, by), latest);
+            CHECKS.due("start by " + by, x().start(0, 0, by), latest);
         }
     }
 
