@@ -61,6 +61,18 @@ final class Checks {
         due("status() behind " + what, x.status(), 0);
     }
 
+    /** A right text: taken as this number or, if it has a fault, refused; count(row) tells how many there are behind it. */
+    void judged(String what, Asked x, int got, int row, int number, int fault) {
+        if (fault == 0) {
+            taken(what, x, got, number);
+        } else {
+            refused(what, x, got, 4);
+        }
+        due("fault() of " + what, x.fault(), fault);
+        due("place() of " + what, x.place(), SillHours.BAD);
+        due("count(" + row + ") behind " + what, x.count(row), fault == 0 ? number + 1 : number);
+    }
+
     static Asked put(Asked x, String text) {
         int before = x.count(4);
         StringBuilder full = new StringBuilder(text);

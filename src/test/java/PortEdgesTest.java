@@ -9,30 +9,19 @@ public final class PortEdgesTest {
     /** A table of a new object; fault 0 if it is taken. */
     private static Asked table(String text, int fault) {
         Asked x = new Asked();
-        verdict("port '" + text + "'", x, Checks.port(x, text), 0, fault);
+        CHECKS.judged("port '" + text + "'", x, Checks.port(x, text), 0, 0, fault);
         return x;
-    }
-
-    private static void verdict(String what, Asked x, int got, int number, int fault) {
-        if (fault == 0) {
-            CHECKS.taken(what, x, got, number);
-        } else {
-            CHECKS.refused(what, x, got, 4);
-        }
-        CHECKS.due("fault() of " + what, x.fault(), fault);
-        CHECKS.due("place() of " + what, x.place(), SillHours.BAD);
-        CHECKS.due("count(0) behind " + what, x.count(0), fault == 0 ? number + 1 : number);
     }
 
     private static Asked longer(String base, String text, int fault) {
         Asked x = table(base, 0);
-        verdict("longer '" + text + "' of " + base, x, Checks.longer(x, 0, text), 1, fault);
+        CHECKS.judged("longer '" + text + "' of " + base, x, Checks.longer(x, 0, text), 0, 1, fault);
         return x;
     }
 
     private static Asked second(String base, String text, int fault) {
         Asked x = table(base, 0);
-        verdict("second '" + text + "' of " + base, x, Checks.second(x, 0, text), 1, fault);
+        CHECKS.judged("second '" + text + "' of " + base, x, Checks.second(x, 0, text), 0, 1, fault);
         return x;
     }
 

@@ -115,15 +115,7 @@ public final class RouteEdgesTest {
 
     private static void routeFault(String text, int fault) {
         Asked x = harbour("0");
-        int got = Checks.route(x, text);
-        if (fault == 0) {
-            CHECKS.taken(text, x, got, 1);
-        } else {
-            CHECKS.refused(text, x, got, 4);
-        }
-        CHECKS.due("fault() of " + text, x.fault(), fault);
-        CHECKS.due("place() of " + text, x.place(), SillHours.BAD);
-        CHECKS.due("count(3) behind " + text, x.count(3), fault == 0 ? 2 : 1);
+        CHECKS.judged(text, x, Checks.route(x, text), 3, 1, fault);
     }
 
     private static void faults() {

@@ -163,28 +163,12 @@ public final class SillEdgesTest {
 
     private static void sillFault(String text, int fault) {
         Asked x = Checks.harbour();
-        int got = Checks.sill(x, 0, text);
-        if (fault == 0) {
-            CHECKS.taken(text, x, got, 1);
-        } else {
-            CHECKS.refused(text, x, got, 4);
-        }
-        CHECKS.due("fault() of " + text, x.fault(), fault);
-        CHECKS.due("place() of " + text, x.place(), SillHours.BAD);
-        CHECKS.due("count(1) behind " + text, x.count(1), fault == 0 ? 2 : 1);
+        CHECKS.judged(text, x, Checks.sill(x, 0, text), 1, 1, fault);
     }
 
     private static void shipFault(String text, int fault) {
         Asked x = Checks.harbour();
-        int got = Checks.ship(x, text);
-        if (fault == 0) {
-            CHECKS.taken(text, x, got, 1);
-        } else {
-            CHECKS.refused(text, x, got, 4);
-        }
-        CHECKS.due("fault() of " + text, x.fault(), fault);
-        CHECKS.due("place() of " + text, x.place(), SillHours.BAD);
-        CHECKS.due("count(2) behind " + text, x.count(2), fault == 0 ? 2 : 1);
+        CHECKS.judged(text, x, Checks.ship(x, text), 2, 1, fault);
     }
 
     private static void faults() {
